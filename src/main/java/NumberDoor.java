@@ -199,6 +199,7 @@ public final class NumberDoor {
     }
 
     public int placed(int k) {
+        placing.look();
         return placing.tellOf(k);
     }
 
@@ -240,22 +241,17 @@ public final class NumberDoor {
         history.keep(folk);
         int moved = 0;
         for (int person = 0; person < folk.count; person++) {
-            if (folk.home[person] == NONE && (folk.number[person] > 0 || folk.night) && takeFirstHouse(person)) {
-                moved++;
+            boolean moves = folk.home[person] == NONE && (folk.number[person] > 0 || folk.night);
+            for (int house = 0; house < town.houses && moves; house++) {
+                if (judge.mayLive(person, house)) {
+                    folk.settle(person, house);
+                    moved++;
+                    moves = false;
+                }
             }
         }
         forgetAnswers();
         return moved;
-    }
-
-    private boolean takeFirstHouse(int person) {
-        for (int house = 0; house < town.houses; house++) {
-            if (judge.mayLive(person, house)) {
-                folk.settle(person, house);
-                return true;
-            }
-        }
-        return false;
     }
 
     public int years(int n) {
@@ -424,10 +420,9 @@ public final class NumberDoor {
     }
 
     private int countLike(int m, int person, int before) {
-        int rest = Numbers.restOf(folk.number[person], m);
         int many = 0;
-        for (int other = 0; other < before; other++) {
-            if (Numbers.restOf(folk.number[other], m) == rest) {
+        for (int other = 0; other < before && m != 0; other++) {
+            if (Math.floorMod(folk.number[other], m) == Math.floorMod(folk.number[person], m)) {
                 many++;
             }
         }
@@ -737,6 +732,8 @@ public final class NumberDoor {
         private int kind;
         private int value;
         private int place;
+        private int lawKind;
+        private int testFrom;
 
         Reader(Tokens tokens, Town town, Folk folk) {
             this.tokens = tokens;
@@ -785,8 +782,8 @@ public final class NumberDoor {
                 case Tokens.HOUSE: good = readHouse(); break;
                 case Tokens.LANE: good = readLane(); break;
                 case Tokens.PERSON: good = readPerson(); break;
-                case Tokens.LAW: good = readLaw(); break;
-                case Tokens.WED: good = readWed(); break;
+                case Tokens.LAW: good = takeLawKind() && readTest(0) && town.addLaw(lawKind, testFrom); break;
+                case Tokens.WED: good = takeWed() && readTest(0) && town.addWed(testFrom); break;
                 case Tokens.OWES: good = readDebt(); break;
                 case Tokens.FIRE: good = readFire(); break;
                 default: good = refuseHere(); break;
@@ -886,28 +883,20 @@ public final class NumberDoor {
             return full;
         }
 
-        private boolean readLaw() {
+        private boolean takeLawKind() {
             next();
             if (kind != Tokens.OWN || value < Tokens.EACH || value > Tokens.WITHIN) {
                 return refuseHere();
             }
-            int lawKind = value;
-            int from = town.codeLength;
+            lawKind = value;
+            testFrom = town.codeLength;
             next();
-            if (!readTest(0)) {
-                return false;
-            }
-            town.addLaw(lawKind, from);
             return true;
         }
 
-        private boolean readWed() {
-            int from = town.codeLength;
+        private boolean takeWed() {
+            testFrom = town.codeLength;
             next();
-            if (!readTest(0)) {
-                return false;
-            }
-            town.addWed(from);
             return true;
         }
 
@@ -1267,18 +1256,20 @@ public final class NumberDoor {
             debts++;
         }
 
-        void addLaw(int kind, int from) {
+        boolean addLaw(int kind, int from) {
             if (laws < MOST_LAWS) {
                 lawKind[laws] = kind;
                 testFrom[laws] = from;
                 testTo[laws] = codeLength;
                 laws++;
             }
+            return true;
         }
 
-        void addWed(int from) {
+        boolean addWed(int from) {
             testFrom[WED_TEST] = from;
             testTo[WED_TEST] = codeLength;
+            return true;
         }
 
         boolean hasTest(int law) {
@@ -1564,30 +1555,37 @@ public final class NumberDoor {
             top = 0;
             int to = Math.min(town.testTo[law], town.code.length);
             for (int at = town.testFrom[law]; at < to; at++) {
-                doStep(town.code[at], me, other);
+                int step = town.code[at];
+                int word = -1 - step;
+                if (step >= 0) {
+                    push(step);
+                } else if (step <= -100) {
+                    int second = pop();
+                    push(combine(-100 - step, pop(), second));
+                } else if (word <= Tokens.MANY) {
+                    push(ask(word, me, other));
+                } else {
+                    doWord(word);
+                }
             }
             return pop() != 0;
         }
 
-        private void doStep(int step, int me, int other) {
-            if (step >= 0) {
-                push(step);
-            } else if (step <= -100) {
-                int second = pop();
-                push(combine(-100 - step, pop(), second));
-            } else {
-                doWord(-1 - step, me, other);
+        private int ask(int word, int me, int other) {
+            int home = folk.home[me];
+            boolean past = home < 0 || home >= town.houses;
+            switch (word) {
+                case Tokens.ME: return folk.number[me];
+                case Tokens.OTHER: return other;
+                case Tokens.ROOMS: return past ? 0 : town.rooms[home];
+                case Tokens.MANY: return past ? 0 : Integer.bitCount(folk.dwellers[home]);
+                case Tokens.STREET: return past ? -1 : town.streetOf[home];
+                default: return past ? -1 : home;
             }
         }
 
-        private void doWord(int word, int me, int other) {
+        private void doWord(int word) {
             switch (word) {
-                case Tokens.ME: push(folk.number[me]); break;
-                case Tokens.OTHER: push(other); break;
-                case Tokens.ROOMS:
-                case Tokens.MANY:
-                case Tokens.HOUSE:
-                case Tokens.STREET: push(ofHome(word, folk.home[me])); break;
                 case Tokens.ALL: push(1); break;
                 case Tokens.NOT: push(1 - pop()); break;
                 case Tokens.SQUARE: push(Numbers.isSquare(pop()) ? 1 : 0); break;
@@ -1601,30 +1599,18 @@ public final class NumberDoor {
             }
         }
 
-        private int ofHome(int word, int home) {
-            boolean housed = home >= 0 && home < town.houses;
-            switch (word) {
-                case Tokens.ROOMS: return housed ? town.rooms[home] : 0;
-                case Tokens.MANY: return housed ? folk.living(home) : 0;
-                case Tokens.STREET: return housed ? town.streetOf[home] : -1;
-                default: return housed ? home : -1;
-            }
-        }
-
         private static int combine(int sign, int a, int b) {
+            long result;
             switch (sign) {
                 case '<': return a < b ? 1 : 0;
                 case '>': return a > b ? 1 : 0;
                 case '=': return a == b ? 1 : 0;
-                case '+': return cap((long) a + b);
-                case '-': return cap((long) a - b);
-                case '*': return cap((long) a * b);
-                case '/': return b == 0 ? 0 : cap(Math.floorDiv((long) a, (long) b));
-                default: return Numbers.restOf(a, b);
+                case '+': result = (long) a + b; break;
+                case '-': result = (long) a - b; break;
+                case '*': result = (long) a * b; break;
+                case '/': result = b == 0 ? 0 : Math.floorDiv(a, b); break;
+                default: result = b == 0 ? 0 : Math.floorMod(a, b); break;
             }
-        }
-
-        private static int cap(long result) {
             return (int) Math.max(-MOST_RESULT, Math.min(MOST_RESULT, result));
         }
 
@@ -1663,7 +1649,7 @@ public final class NumberDoor {
         }
 
         /** Of the asked others, those with whom one breaks a law as me; for a law of each the bit behind all people. */
-        private int breaks(int law, int me, int asked) {
+        int breaks(int law, int me, int asked) {
             int kind = town.lawKind[law];
             if (kind == Tokens.EACH) {
                 boolean free = folk.home[me] == NONE || ((asked >> ALONE) & 1) == 0;
@@ -1682,24 +1668,17 @@ public final class NumberDoor {
             return found;
         }
 
-        boolean breaksAny(int me, int asked) {
-            for (int law = 0; law < town.laws; law++) {
-                if (breaks(law, me, asked) != 0) {
-                    return true;
-                }
-            }
-            return false;
-        }
-
         /** Whether there is a breach with one as me or other, as all live now. */
         boolean isInBreach(int person) {
-            if (breaksAny(person, -1)) {
-                return true;
-            }
             int met = within(person) | besides(person);
-            for (int me = 0; me < folk.count; me++) {
-                if (((met >> me) & 1) == 1 && breaksAny(me, 1 << person)) {
+            for (int law = 0; law < town.laws; law++) {
+                if (breaks(law, person, -1) != 0) {
                     return true;
+                }
+                for (int me = 0; me < folk.count; me++) {
+                    if (((met >> me) & 1) == 1 && breaks(law, me, 1 << person) != 0) {
+                        return true;
+                    }
                 }
             }
             return false;
@@ -1809,7 +1788,6 @@ public final class NumberDoor {
         }
 
         int tellOf(int k) {
-            look();
             if (k == NONE || best == NONE) {
                 return best;
             }
@@ -1821,7 +1799,8 @@ public final class NumberDoor {
             return NONE;
         }
 
-        private void look() {
+        // The ways in their order, none behind all houses, so that the first of like ones is met first.
+        void look() {
             if (known) {
                 return;
             }
@@ -1832,69 +1811,86 @@ public final class NumberDoor {
             if (many > MOST_WAITING) {
                 return;
             }
+            int ways = 1;
             for (int i = 0; i < many; i++) {
                 asked[i] = bitAt(waiting, i);
+                ways *= town.houses + 1;
             }
             Arrays.fill(moods, UNKNOWN);
-            place(0, 0);
+            for (int way = 0; way < ways && best < many; way++) {
+                int placed = settleAll(way);
+                if (placed > best && isLawful()) {
+                    keep(placed);
+                }
+                sendBack();
+            }
         }
 
-        // Goes through the houses in their order, none last, so that the first of like ones is met first.
-        private void place(int i, int placed) {
-            if (placed + many - i <= best) {
-                return;
-            }
-            if (i >= many || i >= MOST_WAITING) {
-                keepIfLawful(placed);
-                return;
-            }
-            for (int house = 0; house < town.houses; house++) {
-                if (folk.living(house) < town.rooms[house]) {
+        /** Lets them live as a way tells: how many have a house then; NONE when there is no room. */
+        private int settleAll(int way) {
+            int choices = Math.max(0, town.houses) + 1;
+            int rest = way;
+            int placed = 0;
+            for (int i = many - 1; i >= 0; i--) {
+                int house = rest % choices;
+                rest /= choices;
+                if (house < town.houses) {
+                    if (folk.living(house) >= town.rooms[house]) {
+                        return NONE;
+                    }
                     folk.settle(asked[i], house);
-                    place(i + 1, placed + 1);
-                    folk.settle(asked[i], NONE);
+                    placed++;
                 }
             }
-            place(i + 1, placed);
+            return placed;
         }
 
-        private void keepIfLawful(int placed) {
-            for (int house = 0; house < town.houses; house++) {
-                if (isTorn(house)) {
-                    return;
-                }
-            }
+        private void sendBack() {
             for (int i = 0; i < many; i++) {
-                if (judge.isInBreach(asked[i])) {
-                    return;
-                }
+                folk.settle(asked[i], NONE);
             }
+        }
+
+        private void keep(int placed) {
             best = placed;
             for (int i = 0; i < many; i++) {
                 chosen[i] = folk.home[asked[i]];
             }
         }
 
+        private boolean isLawful() {
+            for (int house = 0; house < town.houses; house++) {
+                if (isTorn(house)) {
+                    return false;
+                }
+            }
+            for (int i = 0; i < many; i++) {
+                if (judge.isInBreach(asked[i])) {
+                    return false;
+                }
+            }
+            return true;
+        }
+
         // How those who were housed before get on changes only with how many come into me's house: asked once for each.
         private boolean isTorn(int house) {
-            int came = Integer.bitCount(folk.dwellers[house] & waiting);
-            int row = (MOST_WAITING + 1) * house + came;
+            int row = (MOST_WAITING + 1) * house + Integer.bitCount(folk.dwellers[house] & waiting);
             if (row >= moods.length) {
                 return false;
             }
-            if (moods[row] == UNKNOWN) {
-                moods[row] = breaksBefore(house) ? TORN : CALM;
+            if (moods[row] != UNKNOWN) {
+                return moods[row] == TORN;
             }
-            return moods[row] == TORN;
-        }
-
-        private boolean breaksBefore(int house) {
+            moods[row] = CALM;
+            int before = folk.dwellers[house] & ~waiting;
             for (int me = 0; me < folk.count; me++) {
-                if (((folk.dwellers[house] & ~waiting) >> me & 1) == 1 && judge.breaksAny(me, ~waiting)) {
-                    return true;
+                for (int law = 0; law < town.laws && ((before >> me) & 1) == 1; law++) {
+                    if (judge.breaks(law, me, ~waiting) != 0) {
+                        moods[row] = TORN;
+                    }
                 }
             }
-            return false;
+            return moods[row] == TORN;
         }
     }
 
@@ -2165,18 +2161,14 @@ public final class NumberDoor {
         private static final int[] WITNESSES = {2, 7, 61};
 
         static int commonFactor(int one, int other) {
-            int a = Math.abs(one);
-            int b = Math.abs(other);
+            int a = one < 0 ? -one : one;
+            int b = other < 0 ? -other : other;
             for (int step = 0; step < 64 && b != 0; step++) {
                 int rest = a % b;
                 a = b;
                 b = rest;
             }
             return a;
-        }
-
-        static int restOf(int a, int b) {
-            return b == 0 ? 0 : Math.floorMod(a, b);
         }
 
         static boolean isSquare(int n) {
@@ -2206,45 +2198,18 @@ public final class NumberDoor {
                     return n == p;
                 }
             }
-            if (n < 41 * 41) {
-                return true;
-            }
-            int twos = Integer.numberOfTrailingZeros(n - 1);
-            for (int i = 0; i < WITNESSES.length; i++) {
-                if (!passes(n, WITNESSES[i], twos)) {
-                    return false;
+            // By a prime n a witness to the power n - 1 leaves 1, and what leaves 1 when squared leaves 1 or n - 1.
+            boolean prime = true;
+            for (int i = 0; i < WITNESSES.length && prime && n >= 41 * 41; i++) {
+                long x = 1;
+                for (int bit = 30; bit >= 0; bit--) {
+                    long square = x * x % n;
+                    prime = prime && (square != 1 || x == 1 || x == n - 1);
+                    x = ((n - 1) >> bit & 1) == 1 ? square * WITNESSES[i] % n : square;
                 }
+                prime = prime && x == 1;
             }
-            return true;
-        }
-
-        private static boolean passes(int n, int witness, int twos) {
-            long x = power(witness, (n - 1) >> twos, n);
-            if (x == 1 || x == n - 1) {
-                return true;
-            }
-            for (int i = 1; i < twos; i++) {
-                x = n == 0 ? 0 : x * x % n;
-                if (x == n - 1) {
-                    return true;
-                }
-            }
-            return false;
-        }
-
-        private static long power(int base, int exponent, int n) {
-            if (n == 0) {
-                return 0;
-            }
-            long result = 1;
-            long square = base % n;
-            for (int bit = 0; bit < 31; bit++) {
-                if (((exponent >> bit) & 1) == 1) {
-                    result = result * square % n;
-                }
-                square = square * square % n;
-            }
-            return result;
+            return prime;
         }
 
         /** All divisors below n together: the product over its primes of 1 + p + p*p + .., less n. */
