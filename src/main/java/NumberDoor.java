@@ -1398,6 +1398,9 @@ public final class NumberDoor {
         }
 
         void settle(int person, int house) {
+            if (person < 0 || person >= MOST_PEOPLE) {
+                return;
+            }
             int before = home[person];
             if (before >= 0 && before < MOST_HOUSES) {
                 dwellers[before] &= ~(1 << person);
@@ -1854,7 +1857,7 @@ public final class NumberDoor {
         private void keep(int placed) {
             best = placed;
             for (int i = 0; i < many; i++) {
-                chosen[i] = folk.home[asked[i]];
+                chosen[i] = asked[i] < 0 ? NONE : folk.home[asked[i]];
             }
         }
 

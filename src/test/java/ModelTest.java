@@ -18,6 +18,7 @@ public final class ModelTest {
         int[] seen = new int[8];
         for (long seed = first; seed < first + runs && test.wrong < 5; seed++) {
             test.run(seed, seen);
+            test.runSearches(seed);
         }
         System.out.println(runs + " runs against the model, " + test.wrong + " wrong; faults 0 to 6: "
             + java.util.Arrays.toString(seen));
@@ -47,12 +48,7 @@ public final class ModelTest {
     }
 
     private void run(long seed, int[] seen) {
-        random = new Random(seed);
-        door = new NumberDoor();
-        model = new Model();
-        calls = 0;
-        log.setLength(0);
-        log.append("run ").append(seed).append('\n');
+        start(seed);
         boolean good = true;
         if (random.nextInt(10) > 0) {
             good = tellTown(random.nextInt(4) == 0);
@@ -61,6 +57,39 @@ public final class ModelTest {
         while (good && calls < CALLS) {
             good = oneCall();
         }
+    }
+
+    /** Several towns of one sort on one object, and of each all that has to be searched for. */
+    private void runSearches(long seed) {
+        start(seed);
+        boolean good = true;
+        int sort = random.nextInt(3);
+        for (int i = 0; i < 4 && good; i++) {
+            RandomTown source = new RandomTown(random);
+            String text = sort == 0 ? source.wedding() : sort == 1 ? source.crowd() : source.owing();
+            log.append("text: ").append(text).append('\n');
+            good = feedText(text) && same("town()", d -> d.town(), m -> m.town());
+            for (int p = -1; p < 16 && good && sort == 0; p++) {
+                int k = p;
+                good = same("weds(" + k + ")", d -> d.weds(k), m -> m.weds(k));
+            }
+            for (int p = -1; p < model.people.size() && good && sort == 1; p++) {
+                int k = p;
+                int h = random.nextInt(13);
+                good = same("placed(" + k + ")", d -> d.placed(k), m -> m.placed(k))
+                    && same("may(" + k + ", " + h + ")", d -> d.may(k, h), m -> m.may(k, h));
+            }
+            good = good && same("struck()", d -> d.struck(), m -> m.struck());
+        }
+    }
+
+    private void start(long seed) {
+        random = new Random(seed);
+        door = new NumberDoor();
+        model = new Model();
+        calls = 0;
+        log.setLength(0);
+        log.append("run ").append(seed).append('\n');
     }
 
     private boolean feedText(String text) {

@@ -68,6 +68,7 @@ public final class PromiseTest {
         newObject();
         tape();
         towns();
+        manyTowns();
         faultsOfWords();
         faultsOfNames();
         faultsOfNumbers();
@@ -190,6 +191,29 @@ public final class PromiseTest {
         due(4, "the seed stays", x.has(11), seed);
         due(5, "fault(2)", x.fault(2), NONE);
         due(5, "fault(-1)", x.fault(-1), NONE);
+    }
+
+    /** One object takes one town behind the other, each as long as a tape. */
+    private static void manyTowns() {
+        NumberDoor x = new NumberDoor();
+        for (int i = 0; i < 5; i++) {
+            StringBuilder text = new StringBuilder("number 7;law each me=").append(i).append(times(" or me+0=1", 40));
+            text.append(" or me-").append(i + 5).append("=2;wed me=").append(i + 6).append(';');
+            put(x, text.toString());
+            due(4, "town " + i, x.town(), 3);
+            due(14, "its law, " + i, x.holds(0, 0, 0), i == 0 ? 1 : 0);
+            due(14, "its wed, " + i, x.holds(8, 0, 0), i == 1 ? 1 : 0);
+        }
+        StringBuilder long1 = new StringBuilder("number 7;law each me=0");
+        while (long1.length() < 1580) {
+            long1.append("+me*0");
+        }
+        for (int i = 0; i < 5; i++) {
+            put(x, long1 + "+7;");
+            due(4, "a long town " + i, x.town(), 2);
+            due(14, "its law, " + i, x.holds(0, 0, 0), 1);
+            due(14, "no wed, " + i, x.holds(8, 0, 0), NONE);
+        }
     }
 
     private static void faultsOfWords() {
@@ -590,6 +614,13 @@ public final class PromiseTest {
         NumberDoor late = town("street s;house a of s rooms 1;number 7;number 8;number 9;law each me=9;");
         due(13, "9 has it", late.placed(2), 0);
         due(13, "7 has none", late.placed(0), 20);
+        String twelve = "street s;" + times("house $ of s rooms 2;", 12) + "number 2 in l;number 4;number 6;number 8;";
+        due(13, "the last house is torn", town(twelve + "law each not me=2;").placed(-1), NONE);
+        NumberDoor last = town(twelve + "law each house=11 or me=4 and house=10;");
+        due(13, "the last houses", last.placed(-1), 2);
+        due(13, "4", last.placed(1), 10);
+        due(13, "6", last.placed(2), 11);
+        due(13, "8", last.placed(3), 20);
         NumberDoor nobody = town("street s;house a of s rooms 1;number 7 in a;");
         due(13, "nobody waits, lawful", nobody.placed(-1), 0);
         due(13, "nobody waits", nobody.placed(0), NONE);

@@ -279,6 +279,67 @@ final class RandomTown {
         return text.toString();
     }
 
+    /** A town whose COUPLES are not plain: many people, of whom some may wed. */
+    String wedding() {
+        int come = 10 + upTo(7);
+        for (int i = 0; i < come; i++) {
+            statement("number " + number());
+        }
+        int m = 2 + upTo(7);
+        statement("wed " + new String[] {"(me*other+me+other)%" + m + "<" + (1 + upTo(m)), "gcd(me,other)>1",
+            "prime me+other", "me*other%" + m + "=" + upTo(m), "square me*other+" + upTo(30),
+            "me%" + m + "=" + upTo(m) + " or other%" + m + "=" + upTo(m)}[upTo(6)]);
+        return text.toString();
+    }
+
+    /** A town in which one to three wait, and most laws hold. */
+    String crowd() {
+        street();
+        street();
+        int stand = 6 + upTo(7);
+        for (int i = 0; i < stand; i++) {
+            house();
+        }
+        int come = upTo(10);
+        for (int i = 0; i < come; i++) {
+            int house = upTo(stand);
+            if (roomsLeft.get(house) > 0) {
+                roomsLeft.set(house, roomsLeft.get(house) - 1);
+                statement("number " + number() + " in " + houses.get(house));
+            }
+        }
+        int wait = 1 + upTo(3);
+        for (int i = 0; i < wait; i++) {
+            statement("number " + number());
+        }
+        for (int i = 0; i < 3; i++) {
+            pair("lane", true, "");
+        }
+        int rules = 1 + upTo(4);
+        for (int i = 0; i < rules; i++) {
+            statement("law " + new String[] {"beside gcd(me,other)<" + (2 + upTo(9)), "within gcd(me,other)<" + (2 + upTo(9)),
+                "each many<" + (2 + upTo(3)) + " or house<" + upTo(stand), "each rooms>" + upTo(3),
+                "each house%" + (2 + upTo(3)) + "<2", "beside not me+other=" + upTo(60), "within many>1 or all",
+                "each many>1 or me%3<2 or house<" + upTo(stand), "each not many=2 or house>" + upTo(stand),
+                "beside me>other or street=0", "within me*other<500", "each many=rooms or me%2=0"}[upTo(12)]);
+        }
+        return text.toString();
+    }
+
+    /** Many small debts among many houses. */
+    String owing() {
+        street();
+        int stand = 5 + upTo(8);
+        for (int i = 0; i < stand; i++) {
+            house();
+        }
+        int most = 1 + upTo(6);
+        for (int i = 0; i < 16; i++) {
+            pair("owes", false, " " + (1 + upTo(most)));
+        }
+        return text.toString();
+    }
+
     /** A text with something changed in it: a token put in, left out or doubled, or the end cut off. */
     String changed() {
         String was = good();
