@@ -2088,11 +2088,6 @@ public final class NumberDoor {
             foes = new int[MOST_VALUE + 1];
             row = new int[MOST_HIDDEN];
             least = new int[MOST_HIDDEN];
-            for (int one = 1; one <= MOST_VALUE; one++) {
-                for (int other = 1; other <= MOST_VALUE; other++) {
-                    foes[one] |= Numbers.commonFactor(one, other) > 1 ? 1 << other : 0;
-                }
-            }
         }
 
         void forget() {
@@ -2118,7 +2113,16 @@ public final class NumberDoor {
             many = bytes[0];
             all = (2 << bytes[1]) - 2;
             rows = 0;
+            findFoes();
             search(0, bytes);
+        }
+
+        private void findFoes() {
+            for (int one = 1; one <= MOST_VALUE; one++) {
+                for (int other = 1; other <= MOST_VALUE; other++) {
+                    foes[one] |= Numbers.commonFactor(one, other) > 1 ? 1 << other : 0;
+                }
+            }
         }
 
         // The last number is counted by sets; the first row that is met is the least.
