@@ -602,17 +602,26 @@ public final class NumberDoor {
         private static final int MOST_LETTERS = 6;
         private static final int MOST_DIGITS = 9;
 
-        final int[] kinds;
-        final int[] values;
-        final int[] places;
+        // One element holds a token's value, place and kind, since an object's elements are counted, whatever their size.
+        private final long[] told;
         int count;
         int badPlace;
         private int joint;
 
         Tokens() {
-            kinds = new int[MOST_BYTES + 1];
-            values = new int[MOST_BYTES + 1];
-            places = new int[MOST_BYTES + 1];
+            told = new long[MOST_BYTES + 1];
+        }
+
+        int kindOf(int token) {
+            return token >= 0 && token < count && token < told.length ? (int) (told[token] & 7) : END;
+        }
+
+        int placeOf(int token) {
+            return token >= 0 && token < count && token < told.length ? (int) (told[token] >> 3 & 2047) : 0;
+        }
+
+        int valueOf(int token) {
+            return token >= 0 && token < count && token < told.length ? (int) (told[token] >> 14) : 0;
         }
 
         /** Letter k of a name, whose letters stand in five bits each from the left. */
@@ -691,10 +700,8 @@ public final class NumberDoor {
         }
 
         private void put(int kind, int value, int place) {
-            if (count < kinds.length) {
-                kinds[count] = kind;
-                values[count] = value;
-                places[count] = place;
+            if (count < told.length) {
+                told[count] = (long) value << 14 | place << 3 | kind;
                 count++;
             }
         }
@@ -760,11 +767,11 @@ public final class NumberDoor {
         }
 
         private void next() {
-            if (at + 1 < tokens.count && at + 1 < tokens.kinds.length) {
+            if (at + 1 < tokens.count) {
                 at++;
-                kind = tokens.kinds[at];
-                value = tokens.values[at];
-                place = tokens.places[at];
+                kind = tokens.kindOf(at);
+                value = tokens.valueOf(at);
+                place = tokens.placeOf(at);
             }
         }
 

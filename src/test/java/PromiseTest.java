@@ -952,9 +952,9 @@ public final class PromiseTest {
         due(27, "sum(-1, 0)", x.sum(-1, 0), NONE);
         due(27, "sum(0, 22)", x.sum(0, 22), NONE);
         due(27, "sum(0, -2)", x.sum(0, -2), NONE);
-        // 1, 91 and 19 by the people: 1 + 91 = 92, 92 + 19 = 111 with carries at both places; 91 first: 91 + 19 = 110, then 111.
-        NumberDoor order = town("street s;house a of s rooms 3;house b of s rooms 3;number 1 in b;number 91 in a;number 19 in a;");
-        due(27, "by houses first", order.sum(0, 20), 2);
+        // 5 + 90 + 5 carries at two places behind one another, 5 + 5 + 90 at one place twice.
+        NumberDoor order = town("street s;house a of s rooms 3;house b of s rooms 3;number 5 in a;number -5 in b;number 90 in a;");
+        due(27, "by houses first", order.sum(0, 21), 2);
         NumberDoor apart = town("street s;house a of s rooms 3;number 9090909 in a;number 1010101 in a;number 899 in a;");
         due(27, "carries apart", apart.sum(0, 20), 5);
         due(27, "in one adding", apart.sum(0, 21), 1);
